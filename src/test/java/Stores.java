@@ -1,0 +1,57 @@
+/** Runs of calls that many tests begin with. */
+final class Stores {
+    private Stores() {
+    }
+
+    static void feed(SharedBlockStore store, int w0, int w1, int w2, int w3) {
+        store.feed(w0);
+        store.feed(w1);
+        store.feed(w2);
+        store.feed(w3);
+    }
+
+    static int append(SharedBlockStore store, int file, int w0, int w1, int w2, int w3) {
+        feed(store, w0, w1, w2, w3);
+        return store.append(file);
+    }
+
+    /**
+     * Appends the content 1, 2, 3, last. Reckoned apart from the program: last 59, 123, 187, 251 have
+     * the home 61, one more each the home 62, then 63, 0 and 1.
+     */
+    static int append(SharedBlockStore store, int file, int last) {
+        return append(store, file, 1, 2, 3, last);
+    }
+
+    /** Appends n new contents, the first with the given last word, to files from the given one on. */
+    static void fill(SharedBlockStore store, int firstFile, int firstLast, int n) {
+        for (int i = 0; i < n; i++) {
+            append(store, firstFile + i / 12, firstLast + i);
+        }
+    }
+
+    /** A store that went down by a lost write of append. */
+    static SharedBlockStore down() {
+        SharedBlockStore store = new SharedBlockStore();
+        store.crashAfter(0);
+        append(store, 0, 1);
+        return store;
+    }
+
+    /** The blocks in the cells from one on, behind 63 those from 0 on, with spaces between. */
+    static String cells(SharedBlockStore store, int from, int n) {
+        StringBuilder text = new StringBuilder();
+        for (int i = 0; i < n; i++) {
+            text.append(i == 0 ? "" : " ").append(store.cell((from + i) & 63));
+        }
+        return text.toString();
+    }
+
+    static String row(SharedBlockStore store, int file) {
+        StringBuilder text = new StringBuilder();
+        for (int b = 0; b < store.blocks(file); b++) {
+            text.append(b == 0 ? "" : " ").append(store.block(file, b));
+        }
+        return text.toString();
+    }
+}
