@@ -284,7 +284,7 @@ public final class SharedBlockStore {
         latest = written;
     }
 
-    /** What is reckoned from the four words of a content, which begin at a place of an array. */
+    /** What is reckoned from four words of an array, so that the stage and the disk need no copies. */
     private static final class Content {
         private Content() {
         }
@@ -296,10 +296,6 @@ public final class SharedBlockStore {
                 f = f ^ (f >>> 15);
             }
             return f & 255;
-        }
-
-        static int home(int[] words, int start) {
-            return fingerprint(words, start) & (CELLS - 1);
         }
 
         static long bitsOfGate(int[] words, int start) {
@@ -335,7 +331,7 @@ public final class SharedBlockStore {
         }
 
         int homeOf(int block) {
-            return Content.home(words, block * BLOCK_WORDS);
+            return Content.fingerprint(words, block * BLOCK_WORDS) & (CELLS - 1);
         }
 
         long bitsOf(int block) {
@@ -383,7 +379,7 @@ public final class SharedBlockStore {
         }
 
         int lookUp(int[] content) {
-            int home = Content.home(content, 0);
+            int home = Content.fingerprint(content, 0) & (CELLS - 1);
             for (int step = 0; step < CELLS; step++) {
                 int met = blockIn[(home + step) & (CELLS - 1)];
                 probed++;
@@ -410,7 +406,7 @@ public final class SharedBlockStore {
             return true;
         }
 
-        // Looking up stops at an empty cell, so none may come between a block and its home.
+        // Looking up stops at an empty cell, so the hole must not lie between a block and its home.
         private void putInAnewBehind(int hole) {
             for (int step = 1; step < CELLS; step++) {
                 int behind = (hole + step) & (CELLS - 1);
@@ -482,7 +478,7 @@ public final class SharedBlockStore {
         }
     }
 
-    /** One of the two places of a saving; only with its head written it is the latest. */
+    /** One of the two places of a saving; rows in it count for nothing before its head is written. */
     private static final class Slot {
         private final Rows rows;
         private int number;

@@ -99,7 +99,8 @@ final class AppendTest {
         checks.outOfBounds("file 6", () -> store.append(6));
         checks.due("blocks of the full file", 12, store.blocks(2));
         checks.due("the stage of a refused append", 1, store.append(3));
-        SharedBlockStore down = Stores.down();
+        SharedBlockStore down = Stores.downWithFullStage();
+        checks.illegalState("append when down", () -> down.append(0));
         checks.illegalState("down wins", () -> down.append(6));
     }
 

@@ -39,6 +39,10 @@ final class CountTest {
         checks.due("a known content", 5, store.count(2));
         Stores.append(store, 0, -1, -2, -3, -4);
         checks.due("bits 36, 9, 0 more", 8, store.count(2));
+        SharedBlockStore high = new SharedBlockStore();
+        Stores.append(high, 0, 0, 0, 0, 0);
+        Stores.append(high, 0, -1, 0, 0, 0);
+        checks.due("bits 31, 7, 0 and 1, 16, 63", 6, high.count(2));
     }
 
     private static void others(Checks checks, SharedBlockStore store) {

@@ -39,6 +39,7 @@ final class CutAndCopyTest {
         checks.outOfBounds("file 6", () -> store.cut(6, 0));
         checks.due("blocks", 2, store.blocks(0));
         SharedBlockStore down = Stores.down();
+        checks.illegalState("cut when down", () -> down.cut(0, 0));
         checks.illegalState("down wins", () -> down.cut(6, -1));
     }
 
@@ -72,6 +73,7 @@ final class CutAndCopyTest {
         checks.outOfBounds("neither", () -> store.copy(7, 7));
         checks.due("blocks", 1, store.blocks(0));
         SharedBlockStore down = Stores.down();
+        checks.illegalState("copy when down", () -> down.copy(0, 1));
         checks.illegalState("down wins", () -> down.copy(6, 6));
     }
 

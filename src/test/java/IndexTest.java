@@ -163,7 +163,7 @@ final class IndexTest {
     }
 
     private static void refuseWhenDown(Checks checks) {
-        SharedBlockStore down = Stores.down();
+        SharedBlockStore down = Stores.downWithFullStage();
         checks.illegalState("find when down", down::find);
         checks.illegalState("passes when down", down::passes);
         checks.illegalState("cell when down", () -> down.cell(64));

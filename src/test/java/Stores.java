@@ -30,11 +30,19 @@ final class Stores {
         }
     }
 
-    /** A store that went down by a lost write of append. */
+    /** A store that went down, with nothing in its stage that a call could be refused for. */
     static SharedBlockStore down() {
         SharedBlockStore store = new SharedBlockStore();
         store.crashAfter(0);
-        append(store, 0, 1);
+        store.save();
+        return store;
+    }
+
+    static SharedBlockStore downWithFullStage() {
+        SharedBlockStore store = new SharedBlockStore();
+        feed(store, 1, 2, 3, 4);
+        store.crashAfter(0);
+        store.save();
         return store;
     }
 
