@@ -5,6 +5,11 @@ final class Checks {
         void run();
     }
 
+    /** A call of the store whose answer is looked at, whether it is a number or an exception. */
+    interface Asking {
+        int run();
+    }
+
     private int wrong;
 
     void due(String what, long want, long got) {
@@ -25,16 +30,28 @@ final class Checks {
         }
     }
 
+    void thrown(String what, String exception, Call call) {
+        dueText(what, exception, thrownBy(call));
+    }
+
     void illegalState(String what, Call call) {
-        dueText(what, "IllegalStateException", thrownBy(call));
+        thrown(what, "IllegalStateException", call);
     }
 
     void outOfBounds(String what, Call call) {
-        dueText(what, "IndexOutOfBoundsException", thrownBy(call));
+        thrown(what, "IndexOutOfBoundsException", call);
     }
 
     void illegalArgument(String what, Call call) {
-        dueText(what, "IllegalArgumentException", thrownBy(call));
+        thrown(what, "IllegalArgumentException", call);
+    }
+
+    static String answer(Asking call) {
+        try {
+            return Integer.toString(call.run());
+        } catch (RuntimeException e) {
+            return e.getClass().getSimpleName();
+        }
     }
 
     private static String thrownBy(Call call) {

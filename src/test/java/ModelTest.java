@@ -157,23 +157,11 @@ final class ModelTest {
 
     private void same(Kind kind, int a, int b, int c) {
         calls++;
-        String want = answer(() -> onModel(kind, a, b, c));
-        String got = answer(() -> onStore(kind, a, b, c));
+        String want = Checks.answer(() -> onModel(kind, a, b, c));
+        String got = Checks.answer(() -> onStore(kind, a, b, c));
         if (difference == null && !want.equals(got)) {
             difference = "call " + calls + ": " + kind + "(" + a + ", " + b + ", " + c + "): "
                 + got + " and not " + want;
-        }
-    }
-
-    private interface Answering {
-        int run();
-    }
-
-    private static String answer(Answering call) {
-        try {
-            return Integer.toString(call.run());
-        } catch (RuntimeException e) {
-            return e.getClass().getSimpleName();
         }
     }
 

@@ -2,53 +2,51 @@
 final class SaveTest {
     public static void main(String[] args) {
         Checks checks = new Checks();
-        numbersAndWrites(checks);
+        answersItsNumber(checks);
+        leavesFilesAndStage(checks);
         givesBackWhatWasSavedBefore(checks);
-        everyLostWriteKeepsTheSavingBefore(checks);
-        slotsInTurn(checks);
+        answersDownWhenAWriteIsLost(checks);
+        countsWrites(checks);
+        refusesWhenDown(checks);
         checks.end();
     }
 
-    private static void numbersAndWrites(Checks checks) {
+    /** "SAVING: its number" */
+    private static void answersItsNumber(Checks checks) {
         SharedBlockStore store = new SharedBlockStore();
-        checks.due("first", 1, store.save());
-        checks.due("six rows and a head", 7, store.writes());
+        checks.due("first, of nothing", 1, store.save());
         Stores.append(store, 4, 1);
         checks.due("second", 2, store.save());
-        checks.due("a block, six rows and a head more", 15, store.writes());
+        checks.due("third, of the same", 3, store.save());
+        checks.due("recover", 3, store.recover());
+        checks.due("fourth", 4, store.save());
+    }
+
+    /** "SAVING: its number": files and stage are as before. */
+    private static void leavesFilesAndStage(Checks checks) {
+        SharedBlockStore store = new SharedBlockStore();
         Stores.append(store, 4, 1);
-        store.cut(4, 1);
-        store.copy(3, 4);
-        store.refresh();
-        store.recover();
-        checks.due("no other writes", 15, store.writes());
+        Stores.append(store, 4, 1);
         store.feed(1);
         store.save();
-        checks.due("the stage stays", 1, store.drop());
-        SharedBlockStore down = Stores.down();
-        checks.illegalState("save when down", down::save);
-        checks.due("writes when down", 0, down.writes());
+        checks.dueText("row", "0 0", Stores.row(store, 4));
+        checks.due("the stage", 1, store.drop());
+        checks.due("probes", 1, store.probes());
     }
 
+    /** "blocks that are free by that are taken out": they can be had again at once. */
     private static void givesBackWhatWasSavedBefore(Checks checks) {
         SharedBlockStore store = new SharedBlockStore();
-        // Homes 62, 62, 62, 62 in the cells 62, 63, 0, 1.
-        int[] lasts = {60, 124, 188, 252};
-        for (int i = 0; i < lasts.length; i++) {
-            Stores.append(store, i, lasts[i]);
-        }
+        Stores.fill(store, 0, 0, 40);
         store.save();
-        checks.due("cut of a saved one", 0, store.cut(0, 0));
-        checks.due("cut of another", 0, store.cut(2, 0));
-        checks.dueText("cells before", "0 1 2 3 -1", Stores.cells(store, 62, 5));
+        store.cut(3, 3);
+        checks.due("still saved", SharedBlockStore.NONE, Stores.append(store, 4, 40));
         checks.due("save", 2, store.save());
-        checks.dueText("cells after", "1 3 -1 -1 -1", Stores.cells(store, 62, 5));
-        checks.due("used", 2, store.count(0));
-        checks.due("the least free one", 0, Stores.append(store, 5, 7));
-        checks.due("probes", 0, store.probes());
+        checks.due("not saved any more", 39, store.append(4));
     }
 
-    private static void everyLostWriteKeepsTheSavingBefore(Checks checks) {
+    /** "DOWN if a write is lost.": be it the first, the last or one between, and what was saved before stays. */
+    private static void answersDownWhenAWriteIsLost(Checks checks) {
         for (int done = 0; done < 7; done++) {
             SharedBlockStore store = new SharedBlockStore();
             Stores.append(store, 0, 10);
@@ -73,20 +71,34 @@ final class SaveTest {
         checks.due("not down", false, store.down());
     }
 
-    private static void slotsInTurn(Checks checks) {
+    /** "How many writes were done (not those that were lost)." */
+    private static void countsWrites(Checks checks) {
         SharedBlockStore store = new SharedBlockStore();
-        for (int number = 1; number <= 4; number++) {
-            Stores.append(store, 1, number);
-            checks.due("save", number, store.save());
-            // Two savings that fail one after the other must both leave the good slot alone.
-            for (int failing = 0; failing < 2; failing++) {
-                Stores.append(store, 1, 50);
-                store.crashAfter(6);
-                checks.due("failing save", SharedBlockStore.DOWN, store.save());
-                checks.due("recover", number, store.recover());
-                checks.due("blocks", number, store.blocks(1));
-                checks.due("last word", number, store.word(1, number - 1, 3));
-            }
-        }
+        checks.due("writes of a new store", 0, store.writes());
+        store.save();
+        checks.due("six rows and a head", 7, store.writes());
+        Stores.append(store, 4, 1);
+        store.save();
+        checks.due("a block, six rows and a head more", 15, store.writes());
+        store.crashAfter(0);
+        Stores.append(store, 4, 2);
+        checks.due("not a block that was lost", 15, store.writes());
+        store.recover();
+        checks.due("nor a recovering", 15, store.writes());
+        store.crashAfter(2);
+        store.save();
+        checks.due("two of three rows", 17, store.writes());
+        store.recover();
+        store.save();
+        checks.due("all of them again", 24, store.writes());
+    }
+
+    /** "DOWN if a write is lost. IllegalState." */
+    private static void refusesWhenDown(Checks checks) {
+        SharedBlockStore down = Stores.down();
+        checks.illegalState("save when down", down::save);
+        down.crashAfter(SharedBlockStore.NONE);
+        checks.illegalState("save when down, though no write will be lost", down::save);
+        checks.due("writes when down", 0, down.writes());
     }
 }

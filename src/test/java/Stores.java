@@ -1,3 +1,5 @@
+import java.util.TreeSet;
+
 /** Runs of calls that many tests begin with. */
 final class Stores {
     private Stores() {
@@ -10,14 +12,20 @@ final class Stores {
         store.feed(w3);
     }
 
+    static void feedThree(SharedBlockStore store) {
+        store.feed(1);
+        store.feed(2);
+        store.feed(3);
+    }
+
     static int append(SharedBlockStore store, int file, int w0, int w1, int w2, int w3) {
         feed(store, w0, w1, w2, w3);
         return store.append(file);
     }
 
     /**
-     * Appends the content 1, 2, 3, last. Reckoned apart from the program: last 59, 123, 187, 251 have
-     * the home 61, one more each the home 62, then 63, 0 and 1.
+     * Appends the content 1, 2, 3, last. Reckoned apart from the program: with a last of 0 .. 3999 its
+     * home is (last + 2) & 63, so that 60, 124, 188 .. have the home 62, and 62, 126, 190 .. the home 0.
      */
     static int append(SharedBlockStore store, int file, int last) {
         return append(store, file, 1, 2, 3, last);
@@ -53,6 +61,20 @@ final class Stores {
             text.append(i == 0 ? "" : " ").append(store.cell((from + i) & 63));
         }
         return text.toString();
+    }
+
+    /** The blocks that are in the index, by rising numbers. */
+    static String indexed(SharedBlockStore store) {
+        TreeSet<Integer> blocks = new TreeSet<>();
+        int cellsWithBlock = 0;
+        for (int c = 0; c < 64; c++) {
+            int block = store.cell(c);
+            if (block != SharedBlockStore.NONE) {
+                blocks.add(block);
+                cellsWithBlock++;
+            }
+        }
+        return blocks + (cellsWithBlock == blocks.size() ? "" : " and some twice");
     }
 
     static String row(SharedBlockStore store, int file) {
