@@ -69,6 +69,9 @@ final class GateTermsTest {
         dueBits(checks, "bits 0, 0, 62", 2, 1, 2, 3, 126);
         dueBits(checks, "bits 0, 0, 0", 1, 0, 29, 32, 61);
         dueBits(checks, "bits 63, 63, 63", 1, 1, 0, 22, 40);
+        dueBits(checks, "bits 0, 0, 0 of words that would carry", 1, 142, 142, 88, 216);
+        dueBits(checks, "bits 63, 63, 63 of words that would carry", 1, 76, 76, 67, 124);
+        dueBits(checks, "bits 63, 63, 63 of great words", 1, 405907177, -1741405880, -746269375, 1454307935);
     }
 
     private static void dueBits(Checks checks, String what, int want, int w0, int w1, int w2, int w3) {

@@ -128,8 +128,9 @@ final class RefusedCallsTest {
         checks.due("down when down", true, store.down());
         store.crashAfter(SharedBlockStore.NONE);
         checks.due("down after crashAfter", true, store.down());
-        checks.due("probes of twelve appends of 1, 2, 3, 188", 48, store.probes());
-        checks.due("writes when down", 4 + 7 + 1 + 3, store.writes());
+        // Twelve times 1, 2, 3, 188 and once 1, 2, 3, 444 are looked up in five cells each.
+        checks.due("probes when down", 13 * 5, store.probes());
+        checks.due("writes when down", 5 + 7 + 1 + 3, store.writes());
         checks.due("recover when down", 1, store.recover());
         checks.due("down after it", false, store.down());
     }
@@ -141,17 +142,22 @@ final class RefusedCallsTest {
         Picture.dueAlike(checks, name + " changes nothing", store(before), store);
     }
 
-    /** A store with something everywhere, so that a change anywhere can be seen. */
+    /**
+     * A store with something everywhere, so that a change anywhere can be seen: a block that is only saved, a
+     * gate with bits of what is gone, and an index that would be another one if it were made anew.
+     */
     private static SharedBlockStore store(Before before) {
         SharedBlockStore store = new SharedBlockStore();
+        Stores.append(store, 3, 252);
         Stores.fill(store, 0, 60, 2);
         Stores.append(store, 1, 124);
         for (int i = 0; i < 12; i++) {
             Stores.append(store, 2, 188);
         }
+        store.cut(3, 0);
         store.save();
         store.cut(1, 0);
-        Stores.append(store, 3, 252);
+        Stores.append(store, 3, 444);
         store.crashAfter(before == Before.DOWN ? 3 : 5);
         Stores.feedThree(store);
         if (before != Before.THREE_WORDS) {
