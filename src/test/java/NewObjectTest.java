@@ -82,7 +82,10 @@ final class NewObjectTest {
         checks.due("saving of the other object", 1, two.save());
     }
 
-    /** "An object is used for at most 512 calls after it has been made": the last of them answer as the first. */
+    /**
+     * "An object is used for at most 512 calls after it has been made; what later calls answer is free." The last
+     * of them answer as the first.
+     */
     private static void lastCallsAnswer(Checks checks) {
         SharedBlockStore store = new SharedBlockStore();
         for (int number = 1; number <= 63; number++) {

@@ -9,8 +9,8 @@ import java.util.regex.Pattern;
 import java.util.stream.Stream;
 
 /**
- * Holds the tests against the document: their remarks quote it word by word, and each sentence of "Terms" and
- * of the promises is quoted by some test. It says nothing where the document is not at hand.
+ * Holds the tests against the document: their remarks quote it word by word, and each sentence from "What it is"
+ * to the last promise is quoted by some test. It says nothing where the document is not at hand.
  */
 final class SentencesTest {
     private static final Path DOCUMENT = Path.of("../shared/DOC.md");
@@ -63,10 +63,11 @@ final class SentencesTest {
         }
     }
 
-    /** "Terms" and the promises, without headings and the forms of the methods. */
+    /** All up to the last promise, without headings, the face (see FaceTest) and the forms of the methods. */
     private static String promised(String document) {
-        String terms = document.substring(document.indexOf("## Terms"), document.indexOf("## Not promised"));
-        return terms.replaceAll("(?m)^## .*$", "").replaceAll("(?m)^`[^`]*`:", "");
+        String told = document.substring(document.indexOf("## What it is"), document.indexOf("## Not promised"));
+        String sentences = told.replaceAll("(?s)```.*?```", "");
+        return sentences.replaceAll("(?m)^## .*$", "").replaceAll("(?m)^`[^`]*`:", "");
     }
 
     /** The text with | for each letter that some quote has. */
