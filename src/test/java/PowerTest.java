@@ -14,6 +14,7 @@ final class PowerTest {
         recoversWhenDown(checks);
         recoversTwice(checks);
         recoversTheIndex(checks);
+        recoversFreeBlocks(checks);
         answersWhenDown(checks);
         checks.end();
     }
@@ -202,6 +203,35 @@ final class PowerTest {
         checks.due("bits 62, 60, 63, 15", 4, store.count(2));
         checks.due("no probes", probes, store.probes());
         checks.due("writes", 3 + 7 + 1 + 3, store.writes());
+    }
+
+    /** "the index is made anew": blocks that recovering took from files are out of it, and not taken out later. */
+    private static void recoversFreeBlocks(Checks checks) {
+        SharedBlockStore cut = recoveredWithFreeBlocks(checks);
+        checks.due("cut of nothing", 0, cut.cut(5, 0));
+        checks.dueText("cells after it", "1 -1 -1", Stores.cells(cut, 62, 3));
+        SharedBlockStore copied = recoveredWithFreeBlocks(checks);
+        checks.due("copy of nothing", 0, copied.copy(5, 4));
+        checks.dueText("cells after that", "1 -1 -1", Stores.cells(copied, 62, 3));
+        SharedBlockStore saved = recoveredWithFreeBlocks(checks);
+        checks.due("save", 2, saved.save());
+        checks.dueText("cells after saving", "1 -1 -1", Stores.cells(saved, 62, 3));
+    }
+
+    /** The blocks 0 and 2, which are not saved, were in the cells 62 and 0, the saved block 1 in 63. */
+    private static SharedBlockStore recoveredWithFreeBlocks(Checks checks) {
+        SharedBlockStore store = new SharedBlockStore();
+        Stores.append(store, 0, 10);
+        Stores.append(store, 1, 60);
+        store.cut(0, 0);
+        store.save();
+        Stores.append(store, 2, 124);
+        Stores.append(store, 2, 188);
+        store.refresh();
+        checks.dueText("cells before", "0 1 2", Stores.cells(store, 62, 3));
+        checks.due("recover", 1, store.recover());
+        checks.dueText("cells of what is saved", "1 -1 -1", Stores.cells(store, 62, 3));
+        return store;
     }
 
     /** "How many probes there were." and "How many writes were done", also when the store is DOWN. */
